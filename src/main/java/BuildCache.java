@@ -148,9 +148,7 @@ public final class BuildCache {
 
     public int step(int action, int number, int v) {
         if (!graph.has(action) || number < 0 || number > MOST_STEP || v < 0 || v > MOST_VALUE) return BAD;
-        Action it = graph.at(action);
-        if (it.steps >= MOST_STEPS) return FULL;
-        return it.addStep(number, v);
+        return graph.at(action).addStep(number, v);
     }
 
     public int erase(int action) {

@@ -213,8 +213,15 @@ public final class ActionsTest {
         x.input(3, 5);
         Due.is("by a file", x.uses(3, 2), 1);
         Due.is("not through another", x.uses(3, 0), 0);
-        Due.is("uses no a", x.uses(4, 0), BAD);
-        Due.is("uses no b", x.uses(0, 4), BAD);
+        x.input(0, 6);
+        Due.is("a source is nobody's", x.about(0, 3), 0);
+        x.path(0, 3, false);
+        x.action();
+        x.input(0, 6);
+        Due.is("an output that is an input already", x.output(4, 6), 1);
+        Due.is("uses it from then on", x.uses(0, 4), 1);
+        Due.is("uses no a", x.uses(5, 0), BAD);
+        Due.is("uses no b", x.uses(0, 5), BAD);
         Due.is("uses -1", x.uses(-1, 0), BAD);
         Due.is("uses b -1", x.uses(0, -1), BAD);
         Due.is("uses 64 is not 0", x.uses(2, 64), BAD);

@@ -4,6 +4,7 @@ public final class BuildsTest {
 
     public static void main(String[] args) {
         order();
+        longChain();
         needed();
         refusals();
         foundByAnother();
@@ -16,6 +17,7 @@ public final class BuildsTest {
         sourceInPlaceOfMade();
         key();
         keyOfDirectory();
+        longestKey();
         isClean();
         isCleanChangesNothing();
         Due.end("BuildsTest");
@@ -30,12 +32,16 @@ public final class BuildsTest {
     /** An ACTION that READS a FILE and WRITES it with a byte behind it. */
     private static int copying(BuildCache x, int from, int to, int mark) {
         int a = x.action();
+        copyingAnew(x, a, from, to, mark);
+        return a;
+    }
+
+    private static void copyingAnew(BuildCache x, int a, int from, int to, int mark) {
         x.input(a, from);
         x.output(a, to);
         x.step(a, 0, 0);
         x.step(a, 1, mark);
         x.step(a, 3, 0);
-        return a;
     }
 
     private static void doneInOrder(BuildCache x, int... actions) {
@@ -57,6 +63,29 @@ public final class BuildsTest {
         Due.holds(x, 0, 6, "s204");
         Due.is("build again", x.build(0, NONE), 0);
         doneInOrder(x, 1, 2, 0, 3, 4);
+    }
+
+    /** 40 ACTIONS, each of which USES the next one; in an object that holds the 60 PATHS. */
+    private static void longChain() {
+        BuildCache x = new BuildCache();
+        x.path(0, 1, true);
+        x.path(0, 2, true);
+        for (int p = 3; p < 60; p++) x.path(p < 29 ? 1 : p < 55 ? 2 : 0, p < 29 ? p - 2 : p < 55 ? p - 28 : p - 50, false);
+        for (int a = 0; a < 40; a++) copying(x, a + 4, a + 3, '.');
+        x.capacity(4000);
+        Due.write(x, 1, 43, "s");
+        Due.is("clean is what is built", x.isClean(1), 0);
+        Due.is("the first needs all", x.build(1, 3), 40);
+        for (int i = 0; i < 40; i++) Due.is("done(" + i + ", 0)", x.done(i, 0), 39 - i);
+        Due.holds(x, 1, 3, "s" + Due.times(".", 40));
+        Due.is("clean", x.isClean(1), 1);
+        Due.is("the last would come to itself", x.input(39, 3), BuildCache.CIRCLE);
+        Due.is("the first would come to itself", x.output(0, 43), BuildCache.CIRCLE);
+        x.erase(0);
+        copyingAnew(x, 0, 4, 3, '!');
+        Due.is("the first alone is not clean", x.isClean(1), 0);
+        Due.is("the others are found", x.build(1, 3), 1);
+        Due.is("clean", x.isClean(1), 1);
     }
 
     private static void needed() {
@@ -345,6 +374,36 @@ public final class BuildsTest {
         Due.is("a new file does not matter", x.changed(0, 0), 0);
         x.write(0, 6);
         Due.is("that it is there does", x.changed(0, 0), 10);
+    }
+
+    private static void longestKey() {
+        BuildCache x = withFiles(9);
+        x.action();
+        for (int p = 7; p <= 9; p++) x.output(0, p);
+        for (int i = 0; i < 16; i++) x.step(0, 8, 255);
+        long[] row = new long[425];
+        row[0] = 3;
+        row[1] = 16;
+        for (int i = 0; i < 16; i++) {
+            row[2 + 2 * i] = 8;
+            row[3 + 2 * i] = 255;
+        }
+        row[34] = 6;
+        for (int p = 1; p <= 6; p++) {
+            x.input(0, p);
+            Due.write(x, 0, p, Due.times("" + p, 64));
+            row[35 + 65 * (p - 1)] = 64;
+            for (int i = 1; i <= 64; i++) row[35 + 65 * (p - 1) + i] = '0' + p;
+        }
+        Due.is("the longest key", x.key(0, 0), sign(row));
+        Due.is("run", x.build(0, NONE), 1);
+        Due.is("nothing changed", x.changed(0, 0), 0);
+        Due.is("found", x.build(0, NONE), 0);
+        Due.write(x, 0, 6, Due.times("6", 63) + "7");
+        Due.is("its last byte", x.changed(0, 0), 15);
+        Due.is("run", x.build(0, NONE), 1);
+        Due.write(x, 0, 6, Due.times("6", 64));
+        Due.is("found", x.build(0, NONE), 0);
     }
 
     private static void isClean() {

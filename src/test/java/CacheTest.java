@@ -9,6 +9,8 @@ public final class CacheTest {
         leastLatelyUsed();
         hundredEntries();
         entry();
+        roomUsedAgain();
+        twoKeysOfOneSign();
         forget();
         count();
         clear();
@@ -146,6 +148,54 @@ public final class CacheTest {
         Due.is("entry what -1", x.entry(0, -1), NO_ENTRY);
         Due.is("entry 2", x.entry(2, 0), NO_ENTRY);
         Due.is("entry -1", x.entry(-1, 0), NO_ENTRY);
+    }
+
+    /** What an ENTRY that went had held must not show in a later one. */
+    private static void roomUsedAgain() {
+        BuildCache x = copying();
+        x.path(0, 3, false);
+        x.output(0, 3);
+        builtWith(x, "a");
+        builtWith(x, "a");
+        Due.is("found", x.entry(0, 3), 1);
+        x.capacity(0);
+        x.capacity(1000);
+        x.erase(0);
+        x.output(0, 2);
+        Due.is("run", x.build(0, NONE), 1);
+        Due.is("found never", x.entry(0, 3), 0);
+        Due.is("wrote nothing", x.entry(0, 1), 16);
+        Due.holds(x, 0, 2, null);
+        x.forget();
+        x.step(0, 11, 0);
+        x.build(0, NONE);
+        Due.is("fails", x.entry(0, 2), 5);
+        x.forget();
+        x.erase(0);
+        x.build(0, NONE);
+        Due.is("fails no more", x.entry(0, 2), 0);
+        Due.is("no outputs", x.entry(0, 4), 0);
+    }
+
+    /** Two CONTENTS that were looked for so that the KEYS of the ACTION with them have one SIGN. */
+    private static void twoKeysOfOneSign() {
+        BuildCache x = copying();
+        x.feed(0x4420823cfde6f1c2L, 8);
+        x.feed(0x6b30f90e9bfcc740L, 8);
+        x.write(0, 1);
+        x.feed(0x41208424cea618f9L, 8);
+        x.feed(0x691e610a8025d542L, 8);
+        x.write(1, 1);
+        Due.is("one sign", x.key(0, 0) == x.key(1, 0) ? 1 : 0, 1);
+        Due.is("run", x.build(0, NONE), 1);
+        Due.is("another key", x.build(1, NONE), 1);
+        Due.is("its last byte", x.byteAt(1, 2, 15), 0x42);
+        Due.is("two entries", x.count(3), 2);
+        x.copy(1);
+        Due.is("changed", x.changed(1, 0), 10);
+        Due.is("found", x.build(1, NONE), 0);
+        Due.is("the first was used", x.entry(1, 3), 1);
+        Due.is("the other was not", x.entry(0, 3), 0);
     }
 
     private static void forget() {

@@ -187,6 +187,9 @@ public final class FilesTest {
         Due.holds(x, 0, 5, "A");
         Due.is("copy again", x.copy(1), 0);
         Due.is("copy back", x.copy(0), 0);
+        Due.write(x, 0, 2, "longer than ever");
+        Due.write(x, 0, 2, "only in 0");
+        Due.is("what stood there before does not matter", x.copy(1), 0);
         Due.write(x, 0, 1, "samf");
         Due.is("copy one byte", x.copy(1), 1);
         Due.holds(x, 1, 1, "samf");

@@ -201,6 +201,7 @@ public final class LanguageTest {
         roomOf("paths and actions, cleared", LanguageTest::cleared);
         roomOf("builds that always run", LanguageTest::builds);
         roomOf("builds that evict all", LanguageTest::evicting);
+        roomOf("builds that are forgotten", LanguageTest::forgetting);
     }
 
     private static void roomOf(String run, Runnable calls) {
@@ -242,6 +243,14 @@ public final class LanguageTest {
             x.feed(i, 2);
             x.write(i & 1, 1);
             Due.is("runs", x.build(i & 1, BuildCache.NONE), 40);
+        }
+    }
+
+    private static void forgetting() {
+        BuildCache x = withForty();
+        for (int i = 0; i < 195; i++) {
+            Due.is("runs", x.build(0, BuildCache.NONE), 40);
+            x.forget();
         }
     }
 

@@ -142,6 +142,9 @@ public final class ProgramsTest {
         comesTo("64 by twice", Due.times("a", 64), 1, 'a', 13, 0, 13, 0, 13, 0, 13, 0, 13, 0, 13, 0, 3, 0);
         fails("65 by byte", 2, 1, 'a', 13, 0, 13, 0, 13, 0, 13, 0, 13, 0, 13, 0, 1, 'a');
         fails("67 by read", 2, 1, 'a', 13, 0, 13, 0, 13, 0, 13, 0, 13, 0, 13, 0, 0, 0);
+        comesTo("64 in every shape", Due.times("A", 64),
+            1, 'a', 13, 0, 13, 0, 13, 0, 13, 0, 13, 0, 13, 0, 12, 32, 4, 0, 5, 0, 8, 64, 3, 0);
+        comesTo("64 once", "A", 1, 'A', 13, 0, 13, 0, 13, 0, 13, 0, 13, 0, 13, 0, 10, 0, 3, 0);
         comesTo("list of nothing behind 64", Due.times("a", 64),
             1, 'a', 13, 0, 13, 0, 13, 0, 13, 0, 13, 0, 13, 0, 2, 2, 3, 0);
         BuildCache x = running(1, 'a', 13, 0, 13, 0, 13, 0, 13, 0, 13, 0, 13, 0, 2, 2);
