@@ -307,7 +307,10 @@ public final class BuildCache {
         if (isRun) cache.add(entry);
     }
 
-    /** Bytes, 64 at most: of a FILE in a SPACE, of THE TAPE, or of a PROGRAM's ROW. Its size is NONE while a FILE is ABSENT. */
+    /**
+     * Bytes, 64 at most: of a FILE in a SPACE, of THE TAPE, or of a PROGRAM's ROW.
+     * Its size is NONE while a FILE is ABSENT.
+     */
     private static final class Content {
         final int[] bytes = new int[MOST_BYTES];
         int size = NONE;
@@ -409,7 +412,7 @@ public final class BuildCache {
         }
     }
 
-    /** A FILE or a DIRECTORY; a FILE has no files of its own, and a DIRECTORY is ABSENT everywhere and never MADE. */
+    /** A FILE or a DIRECTORY; both can be asked alike, as a FILE has no files and a DIRECTORY is ABSENT and never MADE. */
     private static final class Path {
         final int number;
         final int parent;
@@ -558,7 +561,7 @@ public final class BuildCache {
         }
     }
 
-    /** All ACTIONS, by their numbers, and which of them USE which; a set of ACTIONS is a long with a bit for each. */
+    /** All ACTIONS, by their numbers, and which USE which; a set of ACTIONS is a long with a bit for each. */
     private static final class Graph {
         final ArrayList<Action> actions = new ArrayList<Action>();
 
@@ -624,7 +627,7 @@ public final class BuildCache {
         }
     }
 
-    /** THE KEY of an ACTION: its row of numbers, and where the parts of its INPUTS end in it; empty, it is no KEY yet. */
+    /** THE KEY of an ACTION, and where the parts of its INPUTS end in it; while it is empty, there is none yet. */
     private static final class Key {
         private final int[] numbers = new int[MOST_KEY];
         private final int[] ends = new int[MOST_INPUTS];
@@ -700,7 +703,8 @@ public final class BuildCache {
             return place;
         }
 
-        /** Every number tells how the row goes on, so the first one that is another stands in the first part that is another. */
+        // The numbers ahead of a place tell what stands there, so two KEYS that are alike up to it
+        // have the same part there: the first number that is another tells the first part that is.
         int changeSince(Key former) {
             if (former.size == 0) return NONE;
             if (sameAs(former)) return 0;
@@ -835,7 +839,7 @@ public final class BuildCache {
         }
     }
 
-    /** THE CACHE. Entries that went are kept aside and used again, so that no run makes more than can stand at once. */
+    /** THE CACHE. Entries that went are used again, so that no run makes more than can stand at once. */
     private static final class Cache {
         final ArrayList<Entry> row = new ArrayList<Entry>();
         private final ArrayList<Entry> spare = new ArrayList<Entry>();

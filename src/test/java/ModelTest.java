@@ -8,7 +8,8 @@ import java.util.Random;
 public final class ModelTest {
     private static final int RUNS = 1500, CALLS = 512;
 
-    // How often each call comes, for each kind of run: small trees built again and again, many actions, wide ones, a tight cache.
+    // How often each call comes, for each kind of run: small trees built
+    // again and again, many actions, a tight cache, many files, long programs.
     private static final String[] CALL = {
         "path", "of", "feed", "write", "remove", "copy", "length", "byteAt", "action", "input", "output", "step", "erase",
         "about", "uses", "build", "done", "changed", "key", "isClean", "capacity", "entry", "forget", "count", "clear"};
@@ -16,7 +17,8 @@ public final class ModelTest {
         {20, 4, 20, 20, 4, 3, 8, 12, 12, 30, 30, 40, 1, 6, 6, 30, 20, 15, 8, 8, 2, 12, 1, 10, 0},
         {40, 2, 10, 12, 3, 2, 3, 4, 40, 60, 60, 60, 1, 4, 8, 20, 12, 10, 4, 4, 1, 6, 0, 6, 0},
         {30, 1, 15, 15, 6, 4, 2, 3, 20, 40, 40, 50, 6, 3, 4, 40, 20, 20, 3, 6, 8, 10, 1, 12, 1},
-        {60, 8, 30, 30, 10, 8, 10, 10, 8, 12, 12, 12, 3, 4, 4, 12, 6, 6, 4, 4, 2, 4, 1, 8, 2}};
+        {60, 8, 30, 30, 10, 8, 10, 10, 8, 12, 12, 12, 3, 4, 4, 12, 6, 6, 4, 4, 2, 4, 1, 8, 2},
+        {10, 1, 60, 15, 2, 2, 2, 4, 6, 15, 15, 60, 2, 2, 2, 40, 20, 6, 4, 4, 3, 8, 0, 4, 0}};
 
     private static final Method[] REAL = methodsOf(BuildCache.class);
     private static final Method[] MODEL = methodsOf(Model.class);
@@ -121,12 +123,13 @@ public final class ModelTest {
     }
 
     private static int stepNumber(Random random) {
-        int[] often = {0, 0, 0, 0, 1, 1, 2, 3, 3, 3, 3, 3, 9, 13};
+        int[] often = {0, 0, 0, 0, 1, 1, 2, 3, 3, 3, 3, 9, 13, 13, 13, 13};
         return random.nextInt(3) == 0 ? below(random, 14) : often[random.nextInt(often.length)];
     }
 
     private static int stepValue(Random random) {
-        return random.nextInt(3) == 0 ? below(random, 256) : random.nextInt(3);
+        int luck = random.nextInt(12);
+        return luck == 0 ? below(random, 256) : luck < 4 ? random.nextInt(3) : 0;
     }
 
     private static Object[] argumentsOf(int which, Random random, Model model) {
@@ -137,7 +140,7 @@ public final class ModelTest {
             case "path": return new Object[] {anyDirectory(random, model), 1 + below(random, 26), random.nextInt(5) == 0};
             case "of": return new Object[] {below(random, paths), below(random, 4)};
             case "feed": return new Object[] {random.nextInt(3) == 0 ? random.nextLong() : 97L + random.nextInt(3),
-                random.nextInt(3) == 0 ? below(random, 9) : 1};
+                random.nextInt(2) == 0 ? below(random, 9) : 1};
             case "write": case "remove": case "length": return new Object[] {space, below(random, paths)};
             case "copy": case "isClean": return new Object[] {space};
             case "byteAt": return new Object[] {space, below(random, paths), random.nextInt(4) == 0 ? below(random, 64) : below(random, 4)};
