@@ -679,12 +679,10 @@ public final class BuildCache {
             size++;
         }
 
+        // Where the parts end is asked only of a KEY that was described just now, so it isn't taken over.
         void become(Key other) {
             size = other.size;
-            parts = other.parts;
-            head = other.head;
             for (int i = 0; i < size; i++) numbers[i] = other.numbers[i];
-            for (int i = 0; i < parts; i++) ends[i] = other.ends[i];
         }
 
         long sign() {

@@ -20,6 +20,7 @@ public final class BuildsEdgesTest {
         forty();
         run();
         found();
+        oneSign();
         done();
         doneChanged();
         changed();
@@ -28,6 +29,7 @@ public final class BuildsEdgesTest {
         changedLatest();
         key();
         keyRows();
+        longestKey();
         sign();
         isClean();
         isCleanAnew();
@@ -146,6 +148,20 @@ public final class BuildsEdgesTest {
             CHAIN, "build 0 2 = 1; output 0 4 = 2; build 0 2 = 1; output 0 5 = 3; build 0 2 = 1; entry 2 4 = 3");
     }
 
+    /** Two CONTENTS that were looked for so that the KEYS with them have one SIGN. */
+    private static void oneSign() {
+        long one = sign(1, 2, 0, 0, 3, 0, 1, 16,
+            0x44, 0x20, 0x82, 0x3c, 0xfd, 0xe6, 0xf1, 0xc2, 0x6b, 0x30, 0xf9, 0x0e, 0x9b, 0xfc, 0xc7, 0x40);
+        long other = sign(1, 2, 0, 0, 3, 0, 1, 16,
+            0x41, 0x20, 0x84, 0x24, 0xce, 0xa6, 0x18, 0xf9, 0x69, 0x1e, 0x61, 0x0a, 0x80, 0x25, 0xd5, 0x42);
+        Script.edge("FOUND: by its KEY, not by its SIGN",
+            CHAIN, "erase 0 = 3; input 0 1; output 0 2; steps 0 0:0 3:0; feed 0x4420823cfde6f1c2 8; feed 0x6b30f90e9bfcc740 8",
+            "write 0 1; feed 0x41208424cea618f9 8; feed 0x691e610a8025d542 8", "write 1 1; key 0 0 = " + one, "key 1 0 = " + other,
+            "build 0 2 = 1; build 1 2 = 1; byteAt 0 2 15 = 64; byteAt 1 2 15 = 66; count 3 = 2; copy 1 = 1; changed 1 0 = 10",
+            "build 1 2 = 0; entry 1 3 = 1; entry 0 3 = 0");
+        Due.is("they have one SIGN", one, other);
+    }
+
     private static void done() {
         Script.edge("done: BAD ahead of the first BUILD", CHAIN, Script.range("done 0 # ! BAD", 0, 3));
         Script.edge("done: BAD",
@@ -218,10 +234,8 @@ public final class BuildsEdgesTest {
             six, "write 0 3; changed 0 0 = 12; build 0 NONE; changed 0 0 = 0; put 0 3 '\0'; changed 0 0 = 12; build 0 NONE",
             "remove 0 3; changed 0 0 = 12; build 0 NONE; changed 0 0 = 0");
         Script.edge("10 and i: a byte of as many",
-            six,
-            "fill 0 3 64 97; build 0 NONE; fill 0 3 64 98; changed 0 0 = 12; fill 0 3 63 97; changed 0 0 = 12",
-            "fill 0 3 64 97; changed 0 0 = 0",
-            "put 0 3 '" + "a".repeat(63) + "b'; changed 0 0 = 12");
+            six, "fill 0 3 64 97; build 0 NONE; fill 0 3 64 98; changed 0 0 = 12; fill 0 3 63 97; changed 0 0 = 12",
+            "fill 0 3 64 97; changed 0 0 = 0", "put 0 3 '" + "a".repeat(63) + "b'; changed 0 0 = 12");
         Script.edge("10 and i: a part that goes on as the next one did",
             six, "put 0 1 'a'; put 0 2 'a'; build 0 NONE; put 0 1 'a\1'; write 0 2; changed 0 0 = 10; put 0 1 'a'",
             "changed 0 0 = 11");
@@ -284,8 +298,8 @@ public final class BuildsEdgesTest {
             "path 0 1 dir; path 1 1 file; action; input 0 1; key 0 0 = " + sign(0, 0, 1, -2, 0));
         Script.edge("KEY: these NAMES, rising",
             "path 0 1 dir; path 1 26 file; path 1 1 file; path 1 7 dir; action; input 0 1",
-            "write 0 2; key 0 0 = " + sign(0, 0, 1, -2, 1, 26),
-            "write 0 3; key 0 0 = " + sign(0, 0, 1, -2, 2, 1, 26), "key 1 0 = " + sign(0, 0, 1, -2, 0));
+            "write 0 2; key 0 0 = " + sign(0, 0, 1, -2, 1, 26), "write 0 3; key 0 0 = " + sign(0, 0, 1, -2, 2, 1, 26),
+            "key 1 0 = " + sign(0, 0, 1, -2, 0));
         long[] names = new long[31];
         names[2] = 1;
         names[3] = -2;
@@ -309,6 +323,30 @@ public final class BuildsEdgesTest {
             "write 0 5; put 0 1 'b'; key 0 0 = " + sign(3, 0, 6, 0, -2, 0, 1, 'b', -1, -1, -1));
     }
 
+    /** All that a KEY can hold: 3 OUTPUTS, 16 STEPS, 6 INPUTS of 64 bytes. */
+    private static void longestKey() {
+        long[] row = new long[425];
+        row[0] = 3;
+        row[1] = 16;
+        StringBuilder all = new StringBuilder(Script.range("path 0 # file", 1, 9) + "action; output 0 7; output 0 8; output 0 9\n");
+        for (int i = 0; i < 16; i++) {
+            all.append("step 0 10 ").append(255 - i).append('\n');
+            row[2 + 2 * i] = 10;
+            row[3 + 2 * i] = 255 - i;
+        }
+        row[34] = 6;
+        for (int p = 1; p <= 6; p++) {
+            all.append("input 0 " + p + "; fill 0 " + p + " 64 " + (96 + p) + "\n");
+            row[35 + 65 * (p - 1)] = 64;
+            for (int i = 1; i <= 64; i++) row[35 + 65 * (p - 1) + i] = 96 + p;
+        }
+        Script.edge("KEY: the longest",
+            all.toString(), "key 0 0 ~ " + sign(row), "build 0 NONE = 1; entry 0 0 = " + sign(row), "changed 0 0 = 0",
+            "put 0 6 '" + "f".repeat(63) + "g'; changed 0 0 = 15; build 0 NONE = 1; done 0 3 = 15", "fill 0 6 64 102",
+            "build 0 NONE = 0; changed 0 0 = 0",
+            "put 0 1 'z" + "a".repeat(63) + "'; changed 0 0 = 10; build 0 NONE = 1; fill 0 1 64 97; changed 0 0 = 10; build 0 NONE = 0");
+    }
+
     /** By numbers without a bound, and cut to 64 bits at each turn. */
     private static long sign(long... numbers) {
         BigInteger around = BigInteger.ONE.shiftLeft(64);
@@ -326,6 +364,12 @@ public final class BuildsEdgesTest {
         Script.edge("THE SIGN is told below 0, too",
             CHAIN, "build 0 NONE = 2; entry 0 0 = " + sign(1, 3, 0, 0, 1, 120, 3, 0, 1, 1, 's'),
             "entry 1 0 = " + sign(1, 3, 0, 0, 1, 121, 3, 0, 1, 2, 's', 'x'));
+        // A CONTENT that was looked for so that the KEY's SIGN is 0.
+        Script.edge("0: BAD (a SIGN may be it)",
+            CHAIN, "erase 0; input 0 1; output 0 2; steps 0 0:0 3:0; feed 0xebbcb4fa467490c6 8; feed 0xdc 1; write 0 1 = 9",
+            "key 0 0 ~ 0; changed 0 0 = NONE; build 0 2 = 1; entry 0 0 = 0; entry 0 1 = 25; changed 0 0 = 0; done 0 3 = NONE",
+            "build 0 2 = 0; entry 0 3 = 1; copy 1 = 1; build 1 2 = 0; byteAt 1 2 8 = 220; put 0 1 's'; changed 0 0 = 10",
+            "build 0 2 = 1; count 3 = 2");
         Due.is("one of them is below 0", sign(0, 0, 1, -1) < 0 || sign(0, 0, 0) < 0 || sign(0, 0, 1, 0) < 0 ? 1 : 0, 1);
     }
 
@@ -359,6 +403,9 @@ public final class BuildsEdgesTest {
         Script.edge("RUN anew: again and again",
             CHAIN, "build 0 NONE = 2; isClean 0 = 1; remove 0 1; isClean 0 = 0; put 0 1 's'; isClean 0 = 1; isClean 1 = 1",
             "isClean 0 = 1");
+        Script.edge("RUN anew: all 40, the last one, too",
+            "path 0 1 file", Script.range("action = #", 0, 39), "output 39 1; isClean 1 = 1; step 39 3 0; isClean 1 = 0",
+            "build 1 1 = 1; isClean 1 = 1; erase 39; output 0 1; isClean 1 = 1; step 0 3 0; isClean 1 = 0");
         Script.edge("RUN anew: the CACHE does not matter",
             CHAIN, "build 0 NONE = 2; forget = 2; isClean 0 = 1; capacity 0 = 0; isClean 0 = 1; count 9 = 0");
     }

@@ -167,15 +167,20 @@ public final class CacheEdgesTest {
         Script.edge("entry: The least long: BAD",
             one, foundAgain("abc"), Script.each("entry # 0 ~ LEAST", LEAST, -2, -1, 1, 2, 99, 100, MOST),
             Script.each("entry 0 # ~ LEAST", LEAST, -1, 5, 6, MOST), "entry 0 1 ~ 19; entry 0 2 ~ 0; entry 0 3 ~ 1; entry 0 4 ~ 1");
+        // A CONTENT that was looked for so that the KEY's SIGN is the least long.
+        Script.edge("entry: The least long: BAD (a SIGN may be it)",
+            COPYING, "feed 0x3060ec0fdfe3febe 8; feed 6 1; write 0 1 = 9; key 0 0 ~ LEAST; build 0 2 = 1; entry 0 0 ~ LEAST",
+            "entry 0 1 = 25; entry 0 3 = 0; build 0 2 = 0; entry 0 3 = 1; entry 1 1 = LEAST; count 3 = 1", built("a"),
+            "entry 1 1 = 17; forget = 2");
         Script.edge("entry: where there is none", "entry 0 0 ~ LEAST", Script.range("entry 0 # = LEAST", 1, 4));
     }
 
     private static void entryNumbers() {
         Script.edge("failure: each one",
-            COPYING,
-            "path 0 3 dir; input 0 3; build 0 NONE = 1; entry 0 2 = 1; fill 0 1 64 97; erase 0",
-            "input 0 1; steps 0 0:0 1:0; build 0 NONE = 1; entry 1 2 = 2; erase 0; steps 0 0:0; build 0 NONE = 1; entry 2 2 = 3; erase 0",
-            "input 0 3; steps 0 0:0; build 0 NONE = 1; entry 3 2 = 4; erase 0; steps 0 11:0; build 0 NONE = 1; entry 4 2 = 5; count 4 = 80");
+            COPYING, "path 0 3 dir; input 0 3; build 0 NONE = 1; entry 0 2 = 1; fill 0 1 64 97; erase 0; input 0 1",
+            "steps 0 0:0 1:0; build 0 NONE = 1; entry 1 2 = 2; erase 0; steps 0 0:0; build 0 NONE = 1; entry 2 2 = 3; erase 0",
+            "input 0 3; steps 0 0:0; build 0 NONE = 1; entry 3 2 = 4; erase 0; steps 0 11:0; build 0 NONE = 1; entry 4 2 = 5",
+            "count 4 = 80");
         Script.edge("how often it was FOUND",
             COPYING, built("a"), "entry 0 3 = 0", foundAgain("a"), "entry 0 3 = 1; action; input 1 1; path 0 3 file; output 1 3",
             "steps 1 0:0 3:0; build 0 NONE = 0; entry 0 3 = 3; count 8 = 3; copy 1 = 1; build 1 3 = 0; entry 0 3 = 4");
@@ -221,7 +226,8 @@ public final class CacheEdgesTest {
     }
 
     private static void clear() {
-        String much = COPYING + "path 0 3 dir; path 3 1 file; input 0 3; action; input 1 2; put 0 1 'a'; build 0 NONE = 2\n"
+        String much = COPYING + "path 0 3 dir; path 3 1 file; input 0 3; action; input 1 2\n"
+            + "put 0 1 'a'; build 0 NONE = 2; build 0 NONE = 0\n"
             + "capacity 40 = 0; build 1 NONE = 2; build 0 2 = 1; feed 1 8 = 8\n";
         Script.edge("All is as at first: 1",
             much, "clear = 1", Script.each("count # ~ 0", 1, 2, 3, 4, 6, 7, 8, 9, 10), "count 0 ~ 1; count 5 ~ 1000",

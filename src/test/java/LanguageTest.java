@@ -220,8 +220,10 @@ public final class LanguageTest {
     private static void cleared() {
         BuildCache x = new BuildCache();
         for (int i = 0; i < 512; i++) {
-            if (i % 100 == 99) x.clear();
-            if (x.path(0, 1 + i % 26, false) < 0 && x.action() < 0) x.clear();
+            int turn = i % 67;
+            if (turn == 66) x.clear();
+            else if (turn < 26) x.path(0, 1 + turn, false);
+            else x.action();
         }
     }
 

@@ -6,7 +6,7 @@ import java.util.Random;
 
 /** Long random runs, each answer compared with the Model's; the seeds are fixed, so a run that fails fails again. */
 public final class ModelTest {
-    private static final int RUNS = 1500, CALLS = 512;
+    private static final int RUNS = 1500, CALLS = 512, LAST_LOOK = 400;
 
     // How often each call comes, for each kind of run: small trees built
     // again and again, many actions, a tight cache, many files, long programs.
@@ -36,19 +36,28 @@ public final class ModelTest {
         return found;
     }
 
+    private record Call(int which, Object[] arguments) {
+    }
+
     private static void play(int run) throws Exception {
         Random random = new Random(run);
         BuildCache x = new BuildCache();
         Model model = new Model();
         int[] weights = WEIGHTS[run % WEIGHTS.length];
-        List<String> calls = new ArrayList<>();
+        List<Call> calls = new ArrayList<>();
         for (int i = 0; i < CALLS && Due.isAllRight(); i++) {
             int which = pick(random, weights);
-            Object[] arguments = argumentsOf(which, random, model);
-            compare(run, which, arguments, x, model, calls);
-            if (CALL[which].equals("build") || i % 64 == 63) compareAll(run, x, model, calls);
+            Call call = new Call(which, argumentsOf(which, random, model));
+            calls.add(call);
+            compare(run, call, x, model);
+            boolean isWorthALook = CALL[which].equals("build") && random.nextInt(4) == 0 || i == LAST_LOOK;
+            if (isWorthALook && i <= LAST_LOOK) compareAll(run, calls, model);
         }
-        if (!Due.isAllRight()) for (String call : calls) System.out.println("    " + call);
+        if (!Due.isAllRight()) for (Call call : calls) System.out.println("    " + nameOf(call));
+    }
+
+    private static String nameOf(Call call) {
+        return CALL[call.which] + List.of(call.arguments);
     }
 
     private static int pick(Random random, int[] weights) {
@@ -60,18 +69,18 @@ public final class ModelTest {
         return which;
     }
 
-    private static void compare(int run, int which, Object[] arguments, Object x, Object model, List<String> calls) throws Exception {
-        long want = ((Number) MODEL[which].invoke(model, arguments)).longValue();
-        String call = CALL[which] + List.of(arguments);
-        long got;
+    private static void compare(int run, Call call, BuildCache x, Model model) throws Exception {
+        long want = ((Number) MODEL[call.which].invoke(model, call.arguments)).longValue();
+        Due.is("run " + run + ": " + nameOf(call), answer(x, call, ~want), want);
+    }
+
+    private static long answer(BuildCache x, Call call, long ifThrown) throws Exception {
         try {
-            got = ((Number) REAL[which].invoke(x, arguments)).longValue();
+            return ((Number) REAL[call.which].invoke(x, call.arguments)).longValue();
         } catch (InvocationTargetException thrown) {
-            System.out.println("run " + run + ": " + call + " threw " + thrown.getCause());
-            got = ~want;
+            System.out.println(nameOf(call) + " threw " + thrown.getCause());
+            return ifThrown;
         }
-        calls.add(call + " = " + want);
-        Due.is("run " + run + ": " + call, got, want);
     }
 
     private static int index(String name) {
@@ -79,21 +88,42 @@ public final class ModelTest {
         return -1;
     }
 
-    private static void compareAll(int run, BuildCache x, Model model, List<String> calls) throws Exception {
+    /** All that can be asked, of objects with these calls behind them: as many as it takes, each asked for the rest of its calls. */
+    private static void compareAll(int run, List<Call> calls, Model model) throws Exception {
+        BuildCache x = null;
+        int room = 0;
+        for (Call ask : allAsks(model)) {
+            if (room == 0) {
+                x = new BuildCache();
+                for (Call call : calls) answer(x, call, 0);
+                room = CALLS - calls.size();
+            }
+            compare(run, ask, x, model);
+            room--;
+        }
+    }
+
+    private static List<Call> allAsks(Model model) {
+        List<Call> asks = new ArrayList<>();
         for (int space = 0; space < 2; space++) {
             for (int p = 0; p < model.count(0); p++) {
-                compare(run, index("length"), new Object[] {space, p}, x, model, calls);
-                for (int i = 0; i < model.length(space, p); i++) compare(run, index("byteAt"), new Object[] {space, p, i}, x, model, calls);
+                ask(asks, "length", space, p);
+                for (int i = 0; i < model.length(space, p); i++) ask(asks, "byteAt", space, p, i);
             }
-            for (int a = 0; a < model.count(1); a++) compare(run, index("changed"), new Object[] {space, a}, x, model, calls);
+            for (int a = 0; a < model.count(1); a++) ask(asks, "changed", space, a);
         }
-        for (int what = 0; what < 11; what++) compare(run, index("count"), new Object[] {what}, x, model, calls);
+        for (int what = 0; what < 11; what++) ask(asks, "count", what);
         for (int i = 0; i <= model.count(3); i++) {
-            for (int what = 0; what < 5; what++) compare(run, index("entry"), new Object[] {i, what}, x, model, calls);
+            for (int what = 0; what < 5; what++) ask(asks, "entry", i, what);
         }
         for (int i = 0; i <= model.count(6); i++) {
-            for (int what = 0; what < 4; what++) compare(run, index("done"), new Object[] {i, what}, x, model, calls);
+            for (int what = 0; what < 4; what++) ask(asks, "done", i, what);
         }
+        return asks;
+    }
+
+    private static void ask(List<Call> asks, String name, Object... arguments) {
+        asks.add(new Call(index(name), arguments));
     }
 
     private static int wild(Random random) {

@@ -150,6 +150,8 @@ public final class ProgramsEdgesTest {
 
     private static void sort() {
         comesTo("SORT of one", "1:97 5:0", "a");
+        comesTo("SORT of two", "1:98 1:97 5:0", "ab");
+        comesTo("SORT: all the other way round", "1:99 1:98 1:97 5:0", "abc");
         comesTo("SORT of like ones", "0:0 0:0 5:0", "aabbcc");
         comesTo("SORT by bytes without sign", "1:128 1:255 1:127 1:0 1:1 5:0", "\0\1\u007f\u0080\u00ff");
         comesTo("SORT of what is sorted", "1:97 1:98 1:99 5:0", "abc");

@@ -7,7 +7,7 @@ import java.util.Set;
  * <pre>
  * path 0 1 file = 1      the answer that is due
  * path 0 0 file ! BAD    a call that is refused: it answers this, and changes nothing
- * key 0 0 ~ 0            a call that only asks: it answers this, and changes nothing
+ * key 0 0 ~ 0            a call that is not refused: it answers this, and changes nothing, as it only asks or there is nothing to change
  * action                 any answer
  * put 0 1 'abc'          feeds a text and writes it to FILE 1 in SPACE 0
  * fill 0 1 64 255        the same with 64 bytes that are 255
@@ -35,8 +35,10 @@ final class Script {
             long got = answer(x, call);
             calls++;
             if (sides.length > 1) Due.is(sentence + ": " + call, got, number(sides[1]));
-            if (line.contains(" ! ") || line.contains(" ~ ")) Twins.changesNothing(sentence, taken, call);
-            else if (!ASKING.contains(words(call)[0])) taken.add(call);
+            boolean isAsking = ASKING.contains(words(call)[0]);
+            if (line.contains(" ! ") || isAsking && line.contains(" ~ ")) Twins.nowhereChangesAnything(sentence, taken, call);
+            else if (line.contains(" ~ ")) Twins.changesNothing(sentence, taken, call);
+            else if (!isAsking) taken.add(call);
         }
         Due.is(sentence + ": an object's calls", Math.min(calls, MOST_CALLS), calls);
         edges++;

@@ -6,7 +6,7 @@ import java.util.List;
  * nothing; whatever is asked and done then, both must answer alike.
  */
 final class Twins {
-    private static final int MOST_CALLS = 512;
+    private static final int MOST_CALLS = 512, MOST_FURNISHED = 400;
 
     private Twins() {
     }
@@ -22,7 +22,27 @@ final class Twins {
         }
     }
 
-    /** Asks in portions, each of a new pair, as an object answers only so many calls. */
+    /** The same, and also where FILES have CONTENTS, the CACHE ENTRIES and THE TAPE a byte, so that there is more that could go wrong. */
+    static void nowhereChangesAnything(String sentence, List<String> before, String call) {
+        changesNothing(sentence, before, call);
+        List<String> furnished = furnished(before);
+        boolean isAsBefore = new Asked(furnished).now(call) == new Asked(before).now(call);
+        if (isAsBefore) changesNothing(sentence + ", furnished", furnished, call);
+    }
+
+    private static List<String> furnished(List<String> before) {
+        Asked asked = new Asked(before);
+        List<String> calls = new ArrayList<>(before);
+        int paths = asked.now("count 0");
+        for (int p = 1; p < paths && calls.size() < MOST_FURNISHED; p++) {
+            if (asked.now("of " + p + " 2") == 1 || asked.now("of " + p + " 3") != BuildCache.NONE) continue;
+            for (int s = 0; s < 2; s++) calls.addAll(Script.lines("feed " + (256 * (p + 1) + s) + " 2; write " + s + " " + p));
+        }
+        calls.addAll(Script.lines("build 0 -1; build 1 -1; feed 0x7a 1"));
+        return calls;
+    }
+
+    /** Asks in portions, each of a new pair, as nothing is promised about an object's later calls. */
     private static void alike(String what, List<String> before, String call, List<String> next, List<String> asks) {
         int room = MOST_CALLS - before.size() - next.size() - 1;
         Due.is(what + ": room to ask", Math.min(room, 1), 1);
@@ -45,59 +65,75 @@ final class Twins {
         return x;
     }
 
+    /** Answers of an object with these calls behind it, made anew whenever it has had as many calls as are promised. */
+    private static final class Asked {
+        private final List<String> before;
+        private BuildCache x;
+        private int room = 0;
+
+        Asked(List<String> before) {
+            this.before = before;
+        }
+
+        int now(String call) {
+            if (room == 0) {
+                x = madeBy(before);
+                room = MOST_CALLS - before.size();
+            }
+            room--;
+            return (int) Script.answer(x, call);
+        }
+    }
+
     /** All that can be asked without a change. */
     private static List<String> looks(List<String> before) {
-        BuildCache x = madeBy(before);
-        int paths = x.count(0);
-        int actions = x.count(1);
-        List<String> asks = new ArrayList<>(Script.lines(
-            Script.range("count #", 0, 10), Script.each("isClean #", 0, 1)));
-        for (int p = 0; p < paths; p++) asks.addAll(Script.lines(Script.range("of " + p + " #", 0, 3)));
+        Asked asked = new Asked(before);
+        int paths = asked.now("count 0");
+        int actions = asked.now("count 1");
+        int entries = asked.now("count 3");
+        int deeds = asked.now("count 6");
+        StringBuilder asks = new StringBuilder(Script.range("count #", 0, 10) + Script.each("isClean #", 0, 1));
+        for (int p = 0; p < paths; p++) asks.append(Script.range("of " + p + " #", 0, 3));
         for (int s = 0; s < 2; s++) {
             for (int p = 1; p < paths; p++) {
-                asks.add("length " + s + " " + p);
-                asks.addAll(Script.lines(Script.range("byteAt " + s + " " + p + " #", 0, x.length(s, p))));
+                asks.append("length ").append(s).append(' ').append(p).append('\n');
+                asks.append(Script.range("byteAt " + s + " " + p + " #", 0, asked.now("length " + s + " " + p)));
             }
-            for (int a = 0; a < actions; a++) {
-                asks.add("changed " + s + " " + a);
-                asks.add("key " + s + " " + a);
-            }
+            asks.append(Script.range("changed " + s + " #", 0, actions - 1)).append(Script.range("key " + s + " #", 0, actions - 1));
         }
         for (int a = 0; a < actions; a++) {
-            asks.addAll(Script.lines(Script.range("about " + a + " #", 0, 3), Script.range("uses " + a + " #", 0, Math.min(actions, 8) - 1)));
+            asks.append(Script.range("about " + a + " #", 0, 3)).append(Script.range("uses " + a + " #", 0, Math.min(actions, 8) - 1));
         }
-        for (int i = 0; i < x.count(3); i++) asks.addAll(Script.lines(Script.range("entry " + i + " #", 0, 4)));
-        for (int i = 0; i < x.count(6); i++) asks.addAll(Script.lines(Script.range("done " + i + " #", 0, 3)));
-        return asks;
+        for (int i = 0; i < entries; i++) asks.append(Script.range("entry " + i + " #", 0, 4));
+        for (int i = 0; i < deeds; i++) asks.append(Script.range("done " + i + " #", 0, 3));
+        return Script.lines(asks.toString());
     }
 
     /** Calls that show, by what is refused and what not, where each PATH, NAME, INPUT, OUTPUT and STEP stands. */
     private static List<List<String>> enumerations(List<String> before) {
-        BuildCache x = madeBy(before);
-        List<String> paths = new ArrayList<>();
-        List<String> inputs = new ArrayList<>();
-        List<String> outputs = new ArrayList<>();
-        List<String> erasures = new ArrayList<>();
-        for (int p = 0; p < x.count(0); p++) {
-            paths.addAll(Script.lines(Script.each("path " + p + " # file", 1, 2, 3, 26)));
-            for (int a = 0; a < x.count(1); a++) {
-                inputs.add("input " + a + " " + p);
-                outputs.add("output " + a + " " + p);
-            }
+        Asked asked = new Asked(before);
+        int last = asked.now("count 0") - 1;
+        int actions = asked.now("count 1");
+        StringBuilder paths = new StringBuilder();
+        for (int p = 0; p <= last; p++) paths.append(Script.each("path " + p + " # file", 1, 2, 3, 26));
+        StringBuilder inputs = new StringBuilder();
+        StringBuilder outputs = new StringBuilder();
+        StringBuilder ends = new StringBuilder();
+        for (int a = 0; a < actions; a++) {
+            inputs.append(Script.range("input " + a + " #", 0, last));
+            outputs.append(Script.range("output " + a + " #", 0, last));
+            ends.append(Script.each("step # 3 0; erase #", a));
         }
-        for (int a = 0; a < x.count(1); a++) {
-            erasures.add("step " + a + " 3 0");
-            erasures.add("erase " + a);
-        }
-        erasures.add("action");
-        return List.of(paths, inputs, outputs, erasures);
+        ends.append("action");
+        return List.of(Script.lines(paths.toString()), Script.lines(inputs.toString()), Script.lines(outputs.toString()),
+            Script.lines(ends.toString()));
     }
 
     private static List<String> nextCalls(List<String> before) {
-        BuildCache x = madeBy(before);
-        List<String> next = new ArrayList<>(List.of("build 0 -1", "build 1 -1", "copy 0", "copy 1", "capacity 0", "forget", "feed 1 1"));
-        for (int p = 1; p < x.count(0); p++) {
-            if (x.of(p, 2) == 1 || x.of(p, 3) != BuildCache.NONE) continue;
+        Asked asked = new Asked(before);
+        List<String> next = new ArrayList<>(Script.lines("build 0 -1; build 1 -1; copy 0; copy 1; capacity 0; forget; feed 1 1"));
+        for (int p = 1; p < asked.now("count 0"); p++) {
+            if (asked.now("of " + p + " 2") == 1 || asked.now("of " + p + " 3") != BuildCache.NONE) continue;
             // THE TAPE shows only in a FILE.
             next.add("write 0 " + p);
             break;
