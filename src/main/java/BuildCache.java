@@ -24,8 +24,7 @@ public final class BuildCache {
     // Three counts, two numbers a STEP, and INPUTS that are all FILES as long as can be.
     private static final int MOST_KEY = 3 + 2 * MOST_STEPS + MOST_INPUTS * (1 + MOST_BYTES);
 
-    // A third space, never told of, in which isClean runs PROGRAMS without changing anything.
-    private static final int SPACES = 2, TRIAL = 2;
+    private static final int SPACES = 2;
 
     private static final int READ = 0, BYTE = 1, LIST = 2, WRITE = 3, TURN = 4, SORT = 5, TALLY = 6;
     private static final int SUM = 7, CUT = 8, SKIP = 9, ONCE = 10, FAIL = 11, MIX = 12;
@@ -210,16 +209,13 @@ public final class BuildCache {
 
     public int isClean(int space) {
         if (!isSpace(space)) return BAD;
-        tree.copySources(space, TRIAL);
-        long open = graph.all();
-        for (int turn = 0; turn < MOST_ACTIONS && open != 0; turn++) {
-            int least = graph.leastReady(open);
-            if (least == NONE) break;
-            runner.run(graph.at(least), TRIAL, trial);
-            graph.at(least).takeOutcome(trial, TRIAL);
-            open &= ~bit(least);
+        // No order and no place for new OUTPUTS are needed: if some would be others, the first ACTION in the
+        // told order that has one would be RUN on just the INPUTS that stand now, and so it is met here.
+        for (int a = 0; a < graph.size(); a++) {
+            runner.run(graph.at(a), space, trial);
+            if (!graph.at(a).hasOutcome(trial, space)) return 0;
         }
-        return tree.isMadeAlike(space, TRIAL) ? 1 : 0;
+        return 1;
     }
 
     // ---- the cache
@@ -418,7 +414,7 @@ public final class BuildCache {
         final int parent;
         final int name;
         final boolean isDirectory;
-        final Content[] contents = new Content[SPACES + 1];
+        final Content[] contents = new Content[SPACES];
         // The FILES that stand in a DIRECTORY, by rising NAME, as they are LISTED.
         final ArrayList<Path> files = new ArrayList<Path>();
         int maker = NONE;
@@ -439,7 +435,7 @@ public final class BuildCache {
 
         void madeBy(int action) {
             maker = action;
-            for (int space = 0; space < SPACES; space++) contents[space].size = NONE;
+            for (int space = 0; space < contents.length; space++) contents[space].size = NONE;
         }
 
         long makers() {
@@ -506,14 +502,6 @@ public final class BuildCache {
             }
             return others;
         }
-
-        boolean isMadeAlike(int space, int other) {
-            for (int i = 0; i < paths.size(); i++) {
-                Path path = paths.get(i);
-                if (path.maker != NONE && !path.contents[space].sameAs(path.contents[other])) return false;
-            }
-            return true;
-        }
     }
 
     /** An ACTION, with the KEY of the latest time that it was DONE in each SPACE. */
@@ -558,6 +546,13 @@ public final class BuildCache {
             for (int i = 0; i < outputs.size() && i < MOST_OUTPUTS; i++) {
                 outputs.get(i).contents[space].become(outcome.contents[i]);
             }
+        }
+
+        boolean hasOutcome(Outcome outcome, int space) {
+            for (int i = 0; i < outputs.size() && i < MOST_OUTPUTS; i++) {
+                if (!outputs.get(i).contents[space].sameAs(outcome.contents[i])) return false;
+            }
+            return true;
         }
     }
 

@@ -394,6 +394,16 @@ public final class BuildsEdgesTest {
             CHAIN, "build 0 NONE = 2; put 0 1 't'; build 0 2 = 1; isClean 0 = 0; build 0 3 = 1; isClean 0 = 1");
         Script.edge("RUN anew: what stands by itself is not enough",
             CHAIN, "build 0 NONE = 2; put 0 1 't'; changed 0 1 = 0; isClean 0 = 0");
+        Script.edge("all OUTPUTS: the first is another, though the one made of it is not, and the other way round",
+            CHAIN, "erase 1; input 1 2; output 1 3; steps 1 0:0 6:0 3:0; build 0 NONE = 2; put 0 1 't'; isClean 0 = 0",
+            "build 0 2 = 1; holds 0 3 '2'; changed 0 1 = 10; isClean 0 = 1; put 0 1 'tt'; build 0 2 = 1; isClean 0 = 0");
+        Script.edge("RUN anew in the told order: a greater ACTION ahead of a less one",
+            CHAIN, "erase 0; erase 1; input 0 2; output 0 3; steps 0 0:0 3:0; input 1 1; output 1 2; steps 1 0:0 4:0 3:0",
+            "isClean 0 = 0; build 0 NONE = 2; isClean 0 = 1; put 0 1 'ab'; isClean 0 = 0; build 0 2 = 1; isClean 0 = 0",
+            "build 0 3 = 1; holds 0 3 'ba'; isClean 0 = 1");
+        Script.edge("RUN anew: one that would FAIL, as what it USES would",
+            CHAIN, "build 0 NONE = 2; remove 0 1; isClean 0 = 0; build 0 2 = 1; holds 0 2 absent; isClean 0 = 0",
+            "build 0 3 = 1; done 1 2 = 1; isClean 0 = 1");
         Script.edge("RUN anew: what is LISTED anew",
             CHAIN, "action; output 2 7; steps 2 3:0; action; input 3 6; output 3 4; steps 3 2:0 3:0; build 0 NONE = 4",
             "holds 0 4 'a'; isClean 0 = 1; erase 2; isClean 0 = 0; output 2 7; isClean 0 = 0; step 2 3 0; isClean 0 = 0",
